@@ -1,0 +1,121 @@
+import java.nio.charset.StandardCharsets;
+import java.util.Arrays;
+
+/** What the tests share: it brings texts into rows, and counts the answers that are not as due. */
+final class Checks {
+    interface Call {
+        void make();
+    }
+
+    private int failures;
+
+    static void feedBytes(TokenRow row, byte[] bytes) {
+        byte[] full = Arrays.copyOf(bytes, (bytes.length + 19) / 20 * 20);
+        for (int i = 0; i < full.length; i += 20) {
+            row.feed(fourBytes(full, i), fourBytes(full, i + 4), fourBytes(full, i + 8),
+                fourBytes(full, i + 12), fourBytes(full, i + 16));
+        }
+    }
+
+    private static int fourBytes(byte[] bytes, int i) {
+        return (bytes[i] & 255) << 24 | (bytes[i + 1] & 255) << 16 | (bytes[i + 2] & 255) << 8 | bytes[i + 3] & 255;
+    }
+
+    static void enter(TokenRow row, String text) {
+        feedBytes(row, text.getBytes(StandardCharsets.ISO_8859_1));
+        row.end(text.length());
+    }
+
+    /** A new row that has read the text, all of it or up to what is no token. */
+    static TokenRow rowOf(String text) {
+        TokenRow row = new TokenRow();
+        enter(row, text);
+        readsAll(row);
+        return row;
+    }
+
+    static boolean readsAll(TokenRow row) {
+        try {
+            row.read();
+            return true;
+        } catch (UnsupportedOperationException e) {
+            return false;
+        }
+    }
+
+    void due(String what, long got, long want) {
+        if (got != want) {
+            fail(what + " answered " + got + ", due is " + want);
+        }
+    }
+
+    void due(String what, boolean got, boolean want) {
+        due(what, got ? 1 : 0, want ? 1 : 0);
+    }
+
+    void dueThrow(String what, Class<? extends RuntimeException> want, Call call) {
+        try {
+            call.make();
+        } catch (RuntimeException e) {
+            if (e.getClass() != want) {
+                fail(what + " threw " + e + ", due is " + want.getSimpleName());
+            }
+            return;
+        }
+        fail(what + " threw nothing, due is " + want.getSimpleName());
+    }
+
+    /** The text is all tokens, of these kinds. */
+    void dueKinds(String text, int... kinds) {
+        duePart(text, -1, kinds);
+    }
+
+    /** The text begins with tokens of these kinds, and goes on with what is no token. */
+    void dueWrongBehind(String text, int... kinds) {
+        duePart(text, kinds.length, kinds);
+    }
+
+    private void duePart(String text, int wrong, int... kinds) {
+        TokenRow row = rowOf(text);
+        due(shown(text) + " wrong()", row.wrong(), wrong);
+        for (int k = 0; k < kinds.length; k++) {
+            int token = k;
+            try {
+                due(shown(text) + " kind(" + k + ")", row.kind(token), kinds[k]);
+            } catch (IndexOutOfBoundsException e) {
+                fail(shown(text) + " has no token " + k);
+            }
+        }
+        dueThrow(shown(text) + " kind(" + kinds.length + ")", IndexOutOfBoundsException.class,
+            () -> row.kind(kinds.length));
+    }
+
+    /** The text is one token, of this kind and value. */
+    void dueOne(String text, int kind, long value) {
+        TokenRow row = rowOf(text);
+        due(shown(text) + " wrong()", row.wrong(), -1);
+        try {
+            due(shown(text) + " kind(0)", row.kind(0), kind);
+            due(shown(text) + " value(0)", row.value(0), value);
+        } catch (IndexOutOfBoundsException e) {
+            fail(shown(text) + " has no token");
+        }
+        dueThrow(shown(text) + " kind(1)", IndexOutOfBoundsException.class, () -> row.kind(1));
+    }
+
+    void fail(String what) {
+        failures++;
+        System.out.println(what);
+    }
+
+    static String shown(String text) {
+        return text.length() <= 80 ? "[" + text + "]" : "[" + text.substring(0, 80) + ".. " + text.length() + "]";
+    }
+
+    void finish() {
+        System.out.println(failures == 0 ? "all answers are as due" : failures + " answers are not as due");
+        if (failures != 0) {
+            System.exit(1);
+        }
+    }
+}

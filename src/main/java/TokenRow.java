@@ -483,9 +483,12 @@ public final class TokenRow {
 
         /** The longest of them that the source goes on with, or NONE. */
         int longest(Source source, int from) {
+            int first = source.look(from);
             int best = NONE;
             for (int number = 0; number < count; number++) {
-                if (isThere(number, source, from) && (best == NONE || lengthOf(number) > lengthOf(best))) {
+                // Most are told by the first character; to compare all the others whole would take far longer.
+                if (characters[starts[number]] == first && isThere(number, source, from)
+                    && (best == NONE || lengthOf(number) > lengthOf(best))) {
                     best = number;
                 }
             }
@@ -600,8 +603,13 @@ public final class TokenRow {
     /** Reads whole and broken numbers (JLS 3.10.1, 3.10.2). */
     private static final class Numbers {
         private static final int MOST_OF_A_NUMBER = 1000;
-        /** Far beyond what a thousand digits can make good again, and far below where an int wraps. */
+        /** An exponent far beyond what a thousand digits can make good again, and far below where an int wraps. */
         private static final int ENDLESS = 1000000;
+        /** 10 to this, or to more, is infinite, however small the digits are. */
+        private static final int HIGHEST_POWER = 309;
+        /** A thousand digits with 10 to this, or to less, are nearer to 0 than to anything else. */
+        private static final int LOWEST_POWER = -1400;
+        private static final long LOWEST_LONG = 1L << 63;
 
         private final Source source;
         private final Found found;
@@ -644,10 +652,9 @@ public final class TokenRow {
                 return false;
             }
             int places = sumUp(first, significandEnd);
-            int exponent = readExponent();
-            boolean isGood = base == 16
-                ? rounding.roundBinary(exponent - 4 * places, isFloat)
-                : rounding.roundDecimal(exponent - places, isFloat);
+            int power = base == 16 ? readExponent() - 4 * places : bounded(readExponent() - places);
+            rounding.scaleByFive(base == 16 ? 0 : power);
+            boolean isGood = rounding.round(power, isFloat);
             found.set(isFloat ? FLOAT : DOUBLE, rounding.bits(), from, behind);
             return isGood;
         }
@@ -676,7 +683,7 @@ public final class TokenRow {
 
         /** Whether the negated number fits; a sum of 64 bits is seen as a negative one here. */
         private static boolean isAtMostMinimum(long sum, boolean isLong) {
-            return isLong ? sum >= 0 || sum == Long.MIN_VALUE : sum <= 2147483648L;
+            return isLong ? sum >= 0 || sum == LOWEST_LONG : sum <= 2147483648L;
         }
 
         private boolean hasMark(int from, char small, char large) {
@@ -735,6 +742,11 @@ public final class TokenRow {
             return places;
         }
 
+        /** A power of 10 that gives the same answer, and numbers that a Big has room for. */
+        private static int bounded(int power) {
+            return Math.max(LOWEST_POWER, Math.min(power, HIGHEST_POWER));
+        }
+
         private int readExponent() {
             int exponent = 0;
             for (int i = significandEnd + 1; i < exponentEnd; i++) {
@@ -748,11 +760,6 @@ public final class TokenRow {
 
     /** Finds the float or double next to a number, as bits. */
     private static final class Rounding {
-        /** 10 to this is infinite, however small the digits are. */
-        private static final int INFINITE_POWER = 309;
-        /** A thousand digits with 10 to this are still nearer to 0 than to anything else. */
-        private static final int VANISHING_POWER = -1400;
-
         private final Big numerator;
         private final Big denominator;
         private long bits;
@@ -767,29 +774,18 @@ public final class TokenRow {
             return bits;
         }
 
-        /** Rounds numerator * 10^power: whether that is neither infinite nor a 0 that was none. */
-        boolean roundDecimal(int power, boolean isFloat) {
+        /** Makes the quotient of the two the numerator * 5^power; the 2s of a power of 10 are left to round. */
+        void scaleByFive(int power) {
             denominator.set(1);
-            // These would need more room than a Big has.
-            if (power >= INFINITE_POWER || power <= VANISHING_POWER) {
-                bits = 0;
-                return numerator.isZero();
-            }
             if (power >= 0) {
                 numerator.timesPowerOfFive(power);
             } else {
                 denominator.timesPowerOfFive(-power);
             }
-            return round(power, isFloat);
         }
 
-        /** Rounds numerator * 2^power, with the same answer. */
-        boolean roundBinary(int power, boolean isFloat) {
-            denominator.set(1);
-            return round(power, isFloat);
-        }
-
-        private boolean round(int power, boolean isFloat) {
+        /** Rounds the quotient * 2^power: whether that is neither infinite nor a 0 that was none. */
+        boolean round(int power, boolean isFloat) {
             bits = 0;
             if (numerator.isZero()) {
                 return true;
@@ -829,7 +825,7 @@ public final class TokenRow {
                     numerator.subtract(denominator);
                     quotient++;
                 }
-                numerator.shiftLeft(1);
+                numerator.timesPlus(2, 0);
             }
             int beyondHalf = numerator.compareWith(denominator);
             boolean isUp = beyondHalf > 0 || beyondHalf == 0 && quotient % 2 == 1;
@@ -837,7 +833,7 @@ public final class TokenRow {
         }
     }
 
-    /** A natural number with room for 10^1000 * 5^308, 16^1000 and 5^1400, and some bits more. */
+    /** A natural number with room for 10^1000 * 5^309, 16^1000 and 5^1400, and some bits more. */
     private static final class Big {
         private static final int MOST_LIMBS = 136;
         private static final long LIMB = 0xFFFFFFFFL;

@@ -43,6 +43,13 @@ final class Checks {
         }
     }
 
+    /** Whether a broken number is 0 as it stands there, before anything is rounded. */
+    static boolean isWrittenZero(String number) {
+        boolean isHex = number.matches("0[xX].*");
+        String significand = isHex ? number.substring(2).split("[pP]")[0] : number.split("[eEfFdD]")[0];
+        return !significand.matches(".*[1-9a-fA-F].*");
+    }
+
     void due(String what, long got, long want) {
         if (got != want) {
             fail(what + " answered " + got + ", due is " + want);

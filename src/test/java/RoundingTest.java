@@ -41,7 +41,7 @@ public final class RoundingTest {
             "0x1.fffffffffffffp1023", "0x1.fffffffffffff7fp1023", "0x1.fffffffffffff8p1023", "0x1.00000000000008p0",
             "0x1.00000000000018p0", "0x1.000000000000080001p0", "0x0.fffffffffffffcp-1022", "0x1p-149", "0x1p-150",
             "0x1.000002p-150", "0x1.fffffep127", "0x1.fffffefp127", "0x1.ffffffp127", "0x1.000001p0", "0x1.000003p0",
-            "0x1." + "0".repeat(900) + "1p0", "0x" + "f".repeat(900) + "p-3600", "0x0." + "0".repeat(900) + "1p3604"}) {
+            "0x1." + "0".repeat(900) + "1p0", "0x" + "f".repeat(990) + "p-3960", "0x0." + "0".repeat(900) + "1p3604"}) {
             both(number);
         }
     }

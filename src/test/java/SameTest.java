@@ -12,6 +12,7 @@ public final class SameTest {
         dueSame("\\u0061 a \"\\u0061\" \"\\141\"", -1, 0, 0, 0);
         dueSame("+ + 1 1 'a' 'a' a 1f 1f", -1, -1, -1, -1, -1, -1, -1, -1, -1);
         dueSame("1 a 'a' \"a\" ( (", -1, -1, -1, 1, -1, -1);
+        dueSame("+ 1 \"\"", -1, -1, -1);
         dueSame("\"1\" 1 \"+\" +", -1, -1, -1, -1);
 
         TokenRow many = Checks.rowOf("b " + "a ".repeat(4500) + "b");

@@ -110,6 +110,54 @@ final class Checks {
         dueThrow(shown(text) + " kind(1)", IndexOutOfBoundsException.class, () -> row.kind(1));
     }
 
+    /** The text is one token of this kind (a name, a word or a string), with these characters. */
+    void dueSpelled(String text, int kind, String characters) {
+        dueOne(text, kind, characters.length());
+        TokenRow row = rowOf(text);
+        for (int i = 0; i < characters.length(); i++) {
+            int place = i;
+            try {
+                due(shown(text) + " at(0, " + i + ")", row.at(0, place), characters.charAt(i));
+            } catch (IndexOutOfBoundsException e) {
+                fail(shown(text) + " has no character " + i);
+            }
+        }
+        dueThrow(shown(text) + " at(0, " + characters.length() + ")", IndexOutOfBoundsException.class,
+            () -> row.at(0, characters.length()));
+    }
+
+    /** All that calls can tell of the tokens without a change. */
+    static String seen(TokenRow row) {
+        StringBuilder all = new StringBuilder("wrong " + row.wrong());
+        try {
+            for (int k = 0; k < 8193; k++) {
+                all.append("; ").append(row.kind(k)).append(' ').append(row.glued(k)).append(' ').append(row.value(k));
+                all.append(' ').append(row.same(k)).append(' ').append(spelling(row, k));
+            }
+        } catch (IndexOutOfBoundsException e) {
+            // So many tokens there are.
+        }
+        return all.toString();
+    }
+
+    private static String spelling(TokenRow row, int k) {
+        StringBuilder characters = new StringBuilder();
+        try {
+            for (int i = 0; i < 4001; i++) {
+                characters.append((char) row.at(k, i));
+            }
+        } catch (IndexOutOfBoundsException e) {
+            // So many characters it has.
+        }
+        return characters.toString();
+    }
+
+    void due(String what, String got, String want) {
+        if (!got.equals(want)) {
+            fail(what + " answered [" + got + "], due is [" + want + "]");
+        }
+    }
+
     void fail(String what) {
         failures++;
         System.out.println(what);

@@ -1,3 +1,4 @@
+import java.nio.ByteBuffer;
 import java.nio.charset.StandardCharsets;
 import java.util.Arrays;
 
@@ -9,16 +10,12 @@ final class Checks {
 
     private int failures;
 
+    /** As README.md shows it. */
     static void feedBytes(TokenRow row, byte[] bytes) {
-        byte[] full = Arrays.copyOf(bytes, (bytes.length + 19) / 20 * 20);
-        for (int i = 0; i < full.length; i += 20) {
-            row.feed(fourBytes(full, i), fourBytes(full, i + 4), fourBytes(full, i + 8),
-                fourBytes(full, i + 12), fourBytes(full, i + 16));
+        for (int i = 0; i < bytes.length; i += 20) {
+            ByteBuffer twenty = ByteBuffer.wrap(Arrays.copyOfRange(bytes, i, i + 20));
+            row.feed(twenty.getInt(), twenty.getInt(), twenty.getInt(), twenty.getInt(), twenty.getInt());
         }
-    }
-
-    private static int fourBytes(byte[] bytes, int i) {
-        return (bytes[i] & 255) << 24 | (bytes[i + 1] & 255) << 16 | (bytes[i + 2] & 255) << 8 | bytes[i + 3] & 255;
     }
 
     static void enter(TokenRow row, String text) {
